@@ -114,19 +114,22 @@ public final class GrowingStacks {
     private final World now;
     private final Machine machine;
     private final Guard guard;
-    private final World kept;
     private final World thought;
     private final Machine thinker;
+    private final World kept;
     private boolean imageTaken;
 
     public GrowingStacks() {
-        now = new World(MEMORY_WORDS, new Program());
-        machine = new Machine(now);
-        guard = new Guard(now);
-        kept = new World(MEMORY_WORDS, new Program());
+        Program program = new Program();
+        World live = new World(MEMORY_WORDS, program);
         // No thought tells a FUNCTION, so the program itself can be thought with.
-        thought = new World(ENDLESS_WORDS, now.program);
-        thinker = new Machine(thought);
+        World imagined = new World(ENDLESS_WORDS, program);
+        now = live;
+        machine = new Machine(live);
+        guard = new Guard(live);
+        thought = imagined;
+        thinker = new Machine(imagined);
+        kept = new World(MEMORY_WORDS, new Program());
         imageTaken = false;
     }
 
@@ -202,7 +205,7 @@ public final class GrowingStacks {
         if (!isTask(task) || now.tasks[task].state == ABSENT) {
             return false;
         }
-        now.release(now.tasks[task]);
+        now.releasePieces(now.tasks[task]);
         now.tasks[task].clear();
         return true;
     }
@@ -223,7 +226,7 @@ public final class GrowingStacks {
     }
 
     public int deep(int f) {
-        return now.program.told(f) ? now.program.deepOf(f) : NONE;
+        return now.program.told(f) ? now.program.deeps[f] : NONE;
     }
 
     public int need(int f) {
@@ -489,7 +492,6 @@ public final class GrowingStacks {
         final int[] lines = new int[FUNCTIONS];
         final int[] code = new int[FUNCTIONS * MOST_LINES * PARTS];
         final int[] deeps = new int[FUNCTIONS];
-        boolean deepsKnown;
 
         boolean told(int f) {
             return isFunction(f) && sizes[f] > 0;
@@ -523,7 +525,7 @@ public final class GrowingStacks {
             sizes[f] = size;
             pointers[f] = bits;
             lines[f] = 0;
-            deepsKnown = false;
+            findDeeps();
         }
 
         boolean allows(int f, int kind, int a, int b, int c) {
@@ -553,16 +555,10 @@ public final class GrowingStacks {
             code[at + B] = b;
             code[at + C] = c;
             lines[f] = number + 1;
-            deepsKnown = false;
-            return number;
-        }
-
-        int deepOf(int f) {
-            if (!deepsKnown) {
+            if (kind == CALL || kind == FOREIGN) {
                 findDeeps();
-                deepsKnown = true;
             }
-            return deeps[f];
+            return number;
         }
 
         /**
@@ -625,7 +621,7 @@ public final class GrowingStacks {
             System.arraycopy(other.pointers, 0, pointers, 0, FUNCTIONS);
             System.arraycopy(other.lines, 0, lines, 0, FUNCTIONS);
             System.arraycopy(other.code, 0, code, 0, code.length);
-            deepsKnown = false;
+            System.arraycopy(other.deeps, 0, deeps, 0, FUNCTIONS);
         }
     }
 
@@ -704,7 +700,7 @@ public final class GrowingStacks {
         private int rankOf(int at) {
             int low = 0;
             int high = number - 1;
-            while (low < high) {
+            for (int i = 0; i < MOST_PIECES && low < high; i++) {
                 int middle = (low + high + 1) / 2;
                 if (place[order[middle]] <= at) {
                     low = middle;
@@ -1015,12 +1011,12 @@ public final class GrowingStacks {
         }
 
         boolean covers(int f) {
-            int deep = program.deepOf(f);
+            int deep = program.deeps[f];
             return settings[MERGE] == 1 && deep != DEEP_ENDLESS && deep <= settings[RED];
         }
 
         int needOf(int f) {
-            return covers(f) ? program.deepOf(f) : program.frameWords(f);
+            return covers(f) ? program.deeps[f] : program.frameWords(f);
         }
 
         boolean lastCovered(Task t) {
@@ -1060,12 +1056,7 @@ public final class GrowingStacks {
             return id;
         }
 
-        /** All that a TASK has is given back, which is not told in THE LOG. */
-        void release(Task t) {
-            releasePieces(t);
-            t.dropStack();
-        }
-
+        /** This is not told in THE LOG. */
         void releasePieces(Task t) {
             int p = t.last;
             for (int i = 0; i < MOST_PIECES && p != NONE; i++) {
@@ -1301,32 +1292,47 @@ public final class GrowingStacks {
 
         void makeStep(Task t) {
             world.add(t, SUM_STEPS, 1);
-            int called = doLine(t);
-            if (called != NONE) {
-                int covered = roomFor(t, called);
-                if (covered != NONE) {
-                    enter(t, called, covered);
-                }
+            int f = t.function;
+            int number = t.line;
+            int kind = number < program.lines[f] ? program.part(f, number, KIND) : NONE;
+            int called = NONE;
+            t.line = number + 1;
+            switch (kind) {
+                case NONE:
+                    leaveFrame(t, 0);
+                    break;
+                case CALL:
+                    called = callFunction(t, number);
+                    break;
+                case RETURN:
+                    leaveFrame(t, memory[t.place + SLOTS + program.part(f, number, A)]);
+                    break;
+                case FOREIGN:
+                    called = callForeign(t, number);
+                    break;
+                case QUIET:
+                    mover.makeSmaller(t);
+                    break;
+                default:
+                    reckon(t, kind, number);
+                    break;
+            }
+            int covered = called == NONE ? NONE : roomFor(t, called);
+            if (covered != NONE) {
+                enter(t, called, covered);
             }
             if (t.state == WAITING) {
                 world.add(t, SUM_WAITED, 1);
             }
         }
 
-        /** Answers the FUNCTION that now needs a FRAME, or NONE. */
-        private int doLine(Task t) {
-            int f = t.function;
-            int number = t.line;
-            if (number >= program.lines[f]) {
-                leaveFrame(t, 0);
-                return NONE;
-            }
-            int a = program.part(f, number, A);
-            int b = program.part(f, number, B);
-            int c = program.part(f, number, C);
+        /** The LINES that neither call nor RETURN. */
+        private void reckon(Task t, int kind, int number) {
+            int a = program.part(t.function, number, A);
+            int b = program.part(t.function, number, B);
+            int c = program.part(t.function, number, C);
             int slots = t.place + SLOTS;
-            t.line = number + 1;
-            switch (program.part(f, number, KIND)) {
+            switch (kind) {
                 case SET:
                     memory[slots + a] = b;
                     break;
@@ -1349,47 +1355,49 @@ public final class GrowingStacks {
                         memory[to] = memory[slots + b];
                     }
                     break;
-                case CALL:
-                    if (program.told(a)) {
-                        return a;
-                    }
-                    memory[slots + c] = 0;
-                    break;
                 case JUMP:
-                    t.line = memory[slots + a] > 0 ? b : number + 1;
+                    if (memory[slots + a] > 0) {
+                        t.line = b;
+                    }
                     break;
-                case RETURN:
-                    leaveFrame(t, memory[slots + a]);
-                    break;
-                case FOREIGN:
-                    return callForeign(t, a, b, slots + c);
                 default:
-                    mover.makeSmaller(t);
                     break;
             }
+        }
+
+        /** Answers the FUNCTION that now needs a FRAME, or NONE: one that is not told RETURNS 0 without any. */
+        private int callFunction(Task t, int number) {
+            int f = program.part(t.function, number, A);
+            if (program.told(f)) {
+                return f;
+            }
+            memory[t.place + SLOTS + program.part(t.function, number, C)] = 0;
             return NONE;
         }
 
         /** Answers the FUNCTION that is called back, or NONE. */
-        private int callForeign(Task t, int words, int f, int number) {
+        private int callForeign(Task t, int number) {
             if (t.side == NONE) {
                 t.side = world.freeSide();
             }
             if (t.side == NONE) {
                 t.state = WAITING;
-                t.line--;
+                t.line = number;
                 return NONE;
             }
             t.state = GOING;
+            int words = program.part(t.function, number, A);
             if (t.sideUsed + words > world.settings[SIDE]) {
                 end(t, OUT);
                 return NONE;
             }
             t.sideUsed += words;
+            int f = program.part(t.function, number, B);
             if (program.told(f)) {
                 return f;
             }
-            memory[number] = 3 * memory[number] + 1;
+            int slot = t.place + SLOTS + program.part(t.function, number, C);
+            memory[slot] = 3 * memory[slot] + 1;
             endForeign(t, words);
             return NONE;
         }
@@ -1477,7 +1485,8 @@ public final class GrowingStacks {
         }
 
         private void end(Task t, int state) {
-            world.release(t);
+            world.releasePieces(t);
+            t.dropStack();
             t.state = state;
             world.add(t, state == DONE ? SUM_DONE : SUM_OUT, 1);
             world.log.write(state == DONE ? LOG_DONE : LOG_OUT, t.number, NONE, NONE);

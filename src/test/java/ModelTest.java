@@ -12,9 +12,16 @@ public final class ModelTest {
     private final Model model = new Model();
     private final List<String> history = new ArrayList<>();
     private int wrong = 0;
+    /** Whether FUNCTIONS call only those behind them, so that none is ENDLESS and many are COVERED. */
+    private final boolean upward;
 
     private ModelTest(long seed) {
         random = new Random(seed);
+        upward = seed % 3 == 0;
+    }
+
+    private int called(int f, int functions) {
+        return upward ? Math.min(9, f + from(1, 3)) : below(functions);
     }
 
     private int below(int n) {
@@ -84,12 +91,12 @@ public final class ModelTest {
         if (kind == 0) {
             b = below(20) == 0 ? from(-1003, 1003) : from(-3, 6);
         } else if (kind == 6) {
-            a = below(30) == 0 ? from(-1, 10) : below(functions);
+            a = below(30) == 0 ? from(-1, 10) : called(f, functions);
         } else if (kind == 7) {
             b = below(20) == 0 ? from(-1, 17) : below(8);
         } else if (kind == 9) {
             a = below(20) == 0 ? from(-1, 42) : from(1, 20);
-            b = below(2) == 0 ? -1 : below(functions);
+            b = below(2) == 0 ? -1 : called(f, functions);
         }
         tellLine(f, kind, a, b, c);
     }
@@ -156,16 +163,16 @@ public final class ModelTest {
     private void tellProgram() {
         int functions = from(1, 10);
         for (int f = 0; f < functions; f++) {
-            int way = below(10);
+            int way = upward ? from(4, 9) : below(10);
             int size = from(3, 8);
             if (way < 3) {
-                tellRecursion(f, size, below(2) == 0 ? -1 : below(functions));
+                tellRecursion(f, size, below(2) == 0 ? -1 : called(f, functions));
             } else if (way == 3) {
                 tellPointing(f, from(4, 8));
             } else if (way == 4) {
-                tellPointingFirst(f, below(functions));
+                tellPointingFirst(f, called(f, functions));
             } else if (way == 5) {
-                tellLoop(f, size, below(functions));
+                tellLoop(f, size, called(f, functions));
             } else if (way < 9) {
                 size = from(1, 8);
                 tellFunction(f, size, random.nextInt(1 << size) & random.nextInt(1 << size));
@@ -252,11 +259,15 @@ public final class ModelTest {
             same(call("need", f), real.need(f), model.need(f));
         }
         for (int i = -1; i <= 41; i++) {
-            for (int what = -1; what <= 4; what++) same(call("log", i, what), real.log(i, what), model.log(i, what));
+            for (int what = -1; what <= 4; what++) {
+                same(call("log", i, what), real.log(i, what), model.log(i, what));
+            }
         }
         int gaps = model.gap(-1, 0);
         for (int i = -2; i <= gaps; i++) {
-            for (int what = -1; what <= 2; what++) same(call("gap", i, what), real.gap(i, what), model.gap(i, what));
+            for (int what = -1; what <= 2; what++) {
+                same(call("gap", i, what), real.gap(i, what), model.gap(i, what));
+            }
         }
         for (int t = -1; t <= 6; t++) compareTask(t);
     }
@@ -265,12 +276,16 @@ public final class ModelTest {
         for (int what = -1; what <= 19; what++) same(call("task", t, what), real.task(t, what), model.task(t, what));
         int pieces = model.task(t, 6);
         for (int i = -1; i <= pieces; i++) {
-            for (int what = -1; what <= 4; what++) same(call("piece", t, i, what), real.piece(t, i, what), model.piece(t, i, what));
+            for (int what = -1; what <= 4; what++) {
+                same(call("piece", t, i, what), real.piece(t, i, what), model.piece(t, i, what));
+            }
         }
         int frames = model.task(t, 4);
         int stride = frames > 30 ? from(1, 7) : 1;
         for (int i = -1; i <= frames; i += stride) {
-            for (int what = -1; what <= 8; what++) same(call("frame", t, i, what), real.frame(t, i, what), model.frame(t, i, what));
+            for (int what = -1; what <= 8; what++) {
+                same(call("frame", t, i, what), real.frame(t, i, what), model.frame(t, i, what));
+            }
             for (int s = -1; s <= 8; s++) {
                 for (int what = -1; what <= 4; what++) {
                     same(call("slot", t, i, s, what), real.slot(t, i, s, what), model.slot(t, i, s, what));
@@ -282,14 +297,18 @@ public final class ModelTest {
     private void think() {
         int f = from(-1, 10);
         int a = from(-2, 60);
-        for (int what = -1; what <= 3; what++) same(call("endless", f, a, what), real.endless(f, a, what), model.endless(f, a, what));
+        for (int what = -1; what <= 3; what++) {
+            same(call("endless", f, a, what), real.endless(f, a, what), model.endless(f, a, what));
+        }
         int mode = below(20) == 0 ? from(-1, 2) : below(2);
         for (int what = -1; what <= 7; what++) {
             same(call("alone", f, a, mode, what), real.alone(f, a, mode, what), model.alone(f, a, mode, what));
         }
         int task = from(-1, 6);
         int n = below(10) == 0 ? from(-1, 202) : from(1, 200);
-        for (int what = -1; what <= 5; what++) same(call("land", task, n, what), real.land(task, n, what), model.land(task, n, what));
+        for (int what = -1; what <= 5; what++) {
+            same(call("land", task, n, what), real.land(task, n, what), model.land(task, n, what));
+        }
     }
 
     private int run(long seed, long[] seen) {
