@@ -6,6 +6,7 @@ public final class GrowingTest {
         copiedIsMoved();
         fourTimesAsMany();
         onlyWhatIsWordsOfPlacesIsTurned();
+        justEnough();
         copiedOut();
         coveredIsNotChecked();
         spareForALoop();
@@ -120,6 +121,37 @@ public final class GrowingTest {
             DUE.is("NUMBER 1 of FRAME " + i, x.slot(0, i, 1, 1), i < 3 ? numbers[i] - 1 : 0);
         }
         DUE.is("BACK of FRAME 3", x.frame(0, 3, 7), 5);
+    }
+
+    /** FRAMES that fill their PIECES to the last WORD, and a SPARE that has just the WORDS of NEED. */
+    private static void justEnough() {
+        GrowingStacks x = new GrowingStacks();
+        x.set(0, 10);
+        Programs.sum(x, 0);
+        x.start(0, 0, 1, 0);
+        x.step(0, 4);
+        DUE.is("FRAMES", x.task(0, 4), 2);
+        piece(x, 0, 0, 0, 10, 10, 0);
+        DUE.is("moved", x.task(0, 13), 0);
+        x.step(0, 9);
+        x.set(2, 0);
+        Programs.same(x, 2, 8);
+        Programs.same(x, 3, 1);
+        x.function(1, 8, 0);
+        x.line(1, Programs.CALL, 2, 0, 0);
+        x.line(1, Programs.CALL, 2, 0, 0);
+        x.line(1, Programs.CALL, 3, 0, 0);
+        x.line(1, Programs.RETURN, 0, 0, 0);
+        x.start(0, 1, 4, 1);
+        x.step(0, 3);
+        DUE.is("SPLITS", x.task(0, 15), 1);
+        DUE.is("SPARE again", x.task(0, 17), 1);
+        piece(x, 0, 1, 10, 10, 10, 0);
+        x.step(0, 2);
+        DUE.is("used", x.task(0, 5), 13);
+        DUE.is("the most at once", x.task(0, 18), 20);
+        x.step(0, 9);
+        DUE.is("the most at once", x.task(0, 18), 20);
     }
 
     /** 10 WORDS each: 16, 32 .. 1024 WORDS; 2048 more there are not: 102 FRAMES fit. */

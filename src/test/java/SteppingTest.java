@@ -7,6 +7,7 @@ public final class SteppingTest {
         kindsOfLines();
         numbersWrap();
         noLineAnyMore();
+        sixteenLines();
         jumps();
         notToldIsCalled();
         whatItIsCalledWith();
@@ -100,6 +101,28 @@ public final class SteppingTest {
         DUE.is("step(0, 9)", x.step(0, 9), 1);
         DUE.is("task(0, 2)", x.task(0, 2), 0);
         DUE.is("task(0, 3)", x.task(0, 3), 2);
+    }
+
+    /** The call is LINE 15: behind it is LINE 16, which is not there. */
+    private static void sixteenLines() {
+        GrowingStacks x = new GrowingStacks();
+        x.function(9, 1, 0);
+        for (int i = 0; i < 15; i++) {
+            x.line(9, Programs.ADD, 0, 0, 0);
+        }
+        x.line(9, Programs.CALL, 1, 0, 0);
+        Programs.same(x, 1, 1);
+        x.start(0, 9, 1, 0);
+        x.step(0, 16);
+        DUE.is("LINE 15 is done", x.task(0, 4), 2);
+        DUE.is("called with", x.slot(0, 1, 0, 1), 1 << 15);
+        DUE.is("BACK", x.frame(0, 1, 7), 32 * 9 + 16 + 1024);
+        DUE.is("LINE behind it", x.frame(0, 0, 4), 16);
+        x.step(0, 1);
+        DUE.is("what it RETURNED", x.slot(0, 0, 0, 1), 1 << 15);
+        DUE.is("LINE that comes next", x.task(0, 11), 16);
+        DUE.is("step(0, 9)", x.step(0, 9), 1);
+        DUE.is("RESULT", x.task(0, 2), 0);
     }
 
     private static void jumps() {
