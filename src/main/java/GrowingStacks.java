@@ -891,7 +891,7 @@ public final class GrowingStacks {
             line = t.line;
         }
 
-        /** Not to be asked behind the first FRAME. */
+        /** Behind the first FRAME the place is NONE: nobody may go on from there. */
         void toCaller() {
             int back = memory[place + BACK];
             place = memory[place];
