@@ -325,10 +325,11 @@ public final class GrowingStacks {
     }
 
     public int gap(int i, int what) {
-        if (what < 0 || what > 1) {
-            return NONE;
+        // How many there are is no fact of one GAP: what counts for nothing there.
+        if (i == NONE) {
+            return now.pieces.gaps();
         }
-        return i == NONE ? now.pieces.gaps() : now.pieces.gapFact(i, what);
+        return what == 0 || what == 1 ? now.pieces.gapFact(i, what) : NONE;
     }
 
     public int endless(int f, int a, int what) {

@@ -24,6 +24,7 @@ public final class GrowingTest {
         joinedKeepsRoomForCovered();
         joinedWithoutGap();
         compacted();
+        gapsHowMany();
         logKeepsForty();
         DUE.end();
     }
@@ -583,5 +584,42 @@ public final class GrowingTest {
         y.start(0, 0, 0, 0);
         y.step(0, 1);
         DUE.is("log(1, 0), of one line", y.log(1, 0), -1);
+    }
+
+    /** With i NONE it is how many GAPS there are, whatever what is; of one GAP just 0 and 1 are told. */
+    private static void gapsHowMany() {
+        GrowingStacks x = new GrowingStacks();
+        gaps(x, "new", 1);
+        Programs.forever(x, 0, 8);
+        x.start(0, 0, 0, 0);
+        gaps(x, "one PIECE from place 0 on", 1);
+        x.step(0, 1);
+        gaps(x, "moved", 2);
+        x.image(true);
+        x.start(1, 0, 0, 0);
+        gaps(x, "the first gap is taken", 1);
+        x.start(2, 0, 0, 1);
+        x.stop(1);
+        gaps(x, "another PIECE behind the moved one", 2);
+        x.step(2, 1);
+        x.stop(0);
+        gaps(x, "two linked PIECES far from one another", 2);
+        x.compact();
+        gaps(x, "compacted", 1);
+        x.image(false);
+        gaps(x, "the image", 2);
+    }
+
+    private static void gaps(GrowingStacks x, String when, int many) {
+        int[] whats = {Integer.MIN_VALUE, -2, -1, 0, 1, 2, 3, 1000, Integer.MAX_VALUE};
+        for (int what : whats) {
+            DUE.is(when + ": gap(-1, " + what + ")", x.gap(-1, what), many);
+            for (int i = -2; i <= many; i++) {
+                boolean there = i >= 0 && i < many && (what == 0 || what == 1);
+                if (i != -1) {
+                    DUE.is(when + ": gap(" + i + ", " + what + ") is told", x.gap(i, what) != -1, there);
+                }
+            }
+        }
     }
 }

@@ -606,10 +606,9 @@ final class Model implements Serializable {
     }
 
     int gap(int i, int what) {
-        if (what < 0 || what > 1) return -1;
         List<int[]> gaps = gaps();
         if (i == -1) return gaps.size();
-        return i < 0 || i >= gaps.size() ? -1 : gaps.get(i)[what];
+        return i < 0 || i >= gaps.size() || what < 0 || what > 1 ? -1 : gaps.get(i)[what];
     }
 
     int log(int i, int what) {

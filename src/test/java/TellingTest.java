@@ -202,6 +202,7 @@ public final class TellingTest {
         DUE.is("look(7)", x.look(7), 32);
         DUE.is("look(8)", x.look(8), 0);
         DUE.is("gap(-1, 0)", x.gap(-1, 0), 0);
+        DUE.is("gap(-1, 2)", x.gap(-1, 2), 0);
         DUE.is("gap(0, 0)", x.gap(0, 0), -1);
         DUE.no("no gap: start(1, 1, 5, 0)", x.start(1, 1, 5, 0));
         DUE.is("it stays DONE", x.task(1, 0), 3);
