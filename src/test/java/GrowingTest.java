@@ -29,21 +29,6 @@ public final class GrowingTest {
         DUE.end();
     }
 
-    private static void log(GrowingStacks x, int i, int what, int task, int place, int words) {
-        DUE.is("log(" + i + ", 0)", x.log(i, 0), what);
-        DUE.is("log(" + i + ", 1)", x.log(i, 1), task);
-        DUE.is("log(" + i + ", 2)", x.log(i, 2), place);
-        DUE.is("log(" + i + ", 3)", x.log(i, 3), words);
-    }
-
-    private static void piece(GrowingStacks x, int task, int i, int place, int words, int used, int spare) {
-        String call = "piece(" + task + ", " + i + ", ";
-        DUE.is(call + "0)", x.piece(task, i, 0), place);
-        DUE.is(call + "1)", x.piece(task, i, 1), words);
-        DUE.is(call + "2)", x.piece(task, i, 2), used);
-        DUE.is(call + "3)", x.piece(task, i, 3), spare);
-    }
-
     /** FUNCTION 0 hands a POINTER to its NUMBER 0 to 1, which hands it on without an end. */
     private static void copiedIsMoved() {
         GrowingStacks x = new GrowingStacks();
@@ -60,8 +45,8 @@ public final class GrowingTest {
         DUE.is("a POINTER before", x.slot(0, 2, 0, 1), 2);
         x.step(0, 1);
         DUE.is("used", x.task(0, 5), 17);
-        piece(x, 0, 0, 16, 32, 17, 0);
-        log(x, 0, 0, 0, 16, 32);
+        DUE.piece(x, 0, 0, 16, 32, 17, 0);
+        DUE.log(x, 0, 0, 0, 16, 32);
         DUE.is("WORDS that came over", x.task(0, 14), 13);
         int[] places = {16, 21, 25, 29};
         int[] bases = {-1, 16, 21, 25};
@@ -98,8 +83,8 @@ public final class GrowingTest {
         Programs.through(x, 1, 8, 2);
         Programs.through(x, 0, 8, 1);
         DUE.yes("start(0, 0, 5, 0)", x.start(0, 0, 5, 0));
-        piece(x, 0, 0, 8, 32, 10, 0);
-        log(x, 0, 0, 0, 8, 32);
+        DUE.piece(x, 0, 0, 8, 32, 10, 0);
+        DUE.log(x, 0, 0, 0, 8, 32);
         DUE.is("moved", x.task(0, 13), 1);
         DUE.is("came over", x.task(0, 14), 0);
         DUE.is("place", x.frame(0, 0, 1), 8);
@@ -132,7 +117,7 @@ public final class GrowingTest {
         x.start(0, 0, 1, 0);
         x.step(0, 4);
         DUE.is("FRAMES", x.task(0, 4), 2);
-        piece(x, 0, 0, 0, 10, 10, 0);
+        DUE.piece(x, 0, 0, 0, 10, 10, 0);
         DUE.is("moved", x.task(0, 13), 0);
         x.step(0, 9);
         x.set(2, 0);
@@ -147,7 +132,7 @@ public final class GrowingTest {
         x.step(0, 3);
         DUE.is("SPLITS", x.task(0, 15), 1);
         DUE.is("SPARE again", x.task(0, 17), 1);
-        piece(x, 0, 1, 10, 10, 10, 0);
+        DUE.piece(x, 0, 1, 10, 10, 10, 0);
         x.step(0, 2);
         DUE.is("used", x.task(0, 5), 13);
         DUE.is("the most at once", x.task(0, 18), 20);
@@ -165,7 +150,7 @@ public final class GrowingTest {
         DUE.is("FRAMES", x.task(4, 4), 102);
         DUE.is("step(4, 10)", x.step(4, 10), 1);
         DUE.is("OUT", x.task(4, 0), 4);
-        log(x, 0, 8, 4, -1, -1);
+        DUE.log(x, 0, 8, 4, -1, -1);
         int[] facts = {4, 0, 0, 102, 0, 0, 0, 0, -1, 0, -1, -1, 103, 6, 10 + 30 + 60 + 120 + 250 + 510, 0, 0, 0, 1020};
         for (int what = 0; what <= 18; what++) {
             DUE.is("task(4, " + what + ")", x.task(4, what), facts[what]);
@@ -215,16 +200,16 @@ public final class GrowingTest {
     private static void spareForALoop() {
         GrowingStacks x = hotLoop(1);
         x.step(0, 2);
-        log(x, 0, 2, 0, 16, 16);
-        piece(x, 0, 1, 16, 16, 10, 0);
+        DUE.log(x, 0, 2, 0, 16, 16);
+        DUE.piece(x, 0, 1, 16, 16, 10, 0);
         x.step(0, 1);
-        log(x, 0, 3, 0, 16, 16);
-        piece(x, 0, 1, 16, 16, 0, 1);
+        DUE.log(x, 0, 3, 0, 16, 16);
+        DUE.piece(x, 0, 1, 16, 16, 0, 1);
         DUE.is("PIECES", x.task(0, 6), 2);
         DUE.is("WORDS", x.task(0, 7), 32);
         x.step(0, 3);
-        log(x, 0, 4, 0, 16, 16);
-        piece(x, 0, 1, 16, 16, 10, 0);
+        DUE.log(x, 0, 4, 0, 16, 16);
+        DUE.piece(x, 0, 1, 16, 16, 10, 0);
         DUE.is("SPLITS", x.task(0, 15), 1);
         DUE.is("SPARE again", x.task(0, 17), 1);
         x.step(0, 200);
@@ -234,14 +219,14 @@ public final class GrowingTest {
         DUE.is("count(6)", x.count(6), 1);
         DUE.is("count(8)", x.count(8), 2);
         DUE.is("lines of THE LOG: 2 3 4 3 4 3 9", x.look(14), 7);
-        log(x, 0, 9, 0, -1, -1);
-        log(x, 1, 3, 0, 16, 16);
+        DUE.log(x, 0, 9, 0, -1, -1);
+        DUE.log(x, 1, 3, 0, 16, 16);
     }
 
     private static void coldLoop() {
         GrowingStacks x = hotLoop(0);
         x.step(0, 3);
-        log(x, 0, 5, 0, 16, 16);
+        DUE.log(x, 0, 5, 0, 16, 16);
         DUE.is("PIECES", x.task(0, 6), 1);
         x.step(0, 200);
         DUE.is("SPLITS", x.task(0, 15), 3);
@@ -261,13 +246,13 @@ public final class GrowingTest {
         DUE.is("deep(0)", x.deep(0), 30);
         x.start(0, 0, 8, 1);
         x.step(0, 2);
-        log(x, 0, 3, 0, 16, 16);
+        DUE.log(x, 0, 3, 0, 16, 16);
         x.step(0, 1);
-        log(x, 1, 5, 0, 16, 16);
-        log(x, 0, 2, 0, 16, 20);
-        piece(x, 0, 1, 16, 20, 10, 0);
+        DUE.log(x, 1, 5, 0, 16, 16);
+        DUE.log(x, 0, 2, 0, 16, 20);
+        DUE.piece(x, 0, 1, 16, 20, 10, 0);
         x.step(0, 1);
-        piece(x, 0, 1, 16, 20, 20, 0);
+        DUE.piece(x, 0, 1, 16, 20, 20, 0);
         DUE.is("CHECKED", x.task(0, 12), 3);
     }
 
@@ -283,13 +268,13 @@ public final class GrowingTest {
         x.step(0, 3);
         DUE.is("PIECES", x.task(0, 6), 4);
         x.step(0, 1);
-        piece(x, 0, 3, 48, 16, 0, 1);
+        DUE.piece(x, 0, 3, 48, 16, 0, 1);
         x.step(0, 1);
         DUE.is("PIECES", x.task(0, 6), 3);
-        piece(x, 0, 2, 32, 16, 0, 1);
-        log(x, 0, 3, 0, 32, 16);
-        log(x, 1, 5, 0, 48, 16);
-        log(x, 2, 3, 0, 48, 16);
+        DUE.piece(x, 0, 2, 32, 16, 0, 1);
+        DUE.log(x, 0, 3, 0, 32, 16);
+        DUE.log(x, 1, 5, 0, 48, 16);
+        DUE.log(x, 2, 3, 0, 48, 16);
     }
 
     /** The first call needs 30 WORDS, the first PIECE has 16: its FRAME is the first one of another PIECE. */
@@ -299,9 +284,9 @@ public final class GrowingTest {
         Programs.through(x, 1, 8, 2);
         Programs.through(x, 0, 8, 1);
         x.start(0, 0, 5, 1);
-        piece(x, 0, 0, 0, 16, 0, 0);
-        piece(x, 0, 1, 16, 30, 10, 0);
-        log(x, 0, 2, 0, 16, 30);
+        DUE.piece(x, 0, 0, 0, 16, 0, 0);
+        DUE.piece(x, 0, 1, 16, 30, 10, 0);
+        DUE.log(x, 0, 2, 0, 16, 30);
         DUE.is("frame(0, 0, 2)", x.frame(0, 0, 2), 1);
         DUE.is("frame(0, 0, 6)", x.frame(0, 0, 6), -1);
         x.step(0, 2);
@@ -310,8 +295,8 @@ public final class GrowingTest {
         DUE.is("never(2)", x.never(2), 0);
         x.step(0, 9);
         DUE.is("RESULT", x.task(0, 2), 5);
-        log(x, 0, 9, 0, -1, -1);
-        log(x, 1, 3, 0, 16, 30);
+        DUE.log(x, 0, 9, 0, -1, -1);
+        DUE.log(x, 1, 3, 0, 16, 30);
     }
 
     /** 62 WORDS are left as it begins; 30 PIECES of 64, one of 64 less; its first call needs more. */
@@ -335,7 +320,7 @@ public final class GrowingTest {
         DUE.is("task(1, 12)", x.task(1, 12), 1);
         DUE.is("task(1, 18)", x.task(1, 18), 0);
         DUE.is("count(1)", x.count(1), 1);
-        log(x, 0, 8, 1, -1, -1);
+        DUE.log(x, 0, 8, 1, -1, -1);
         DUE.is("step(1, 1)", x.step(1, 1), 0);
         DUE.yes("start(2, 1, 0, 1)", x.start(2, 1, 0, 1));
         DUE.is("task(2, 0)", x.task(2, 0), 4);
@@ -351,15 +336,15 @@ public final class GrowingTest {
         DUE.no("quiet(6)", x.quiet(6));
         x.start(0, 0, 3, 0);
         x.step(0, 12);
-        piece(x, 0, 0, 24, 32, 20, 0);
+        DUE.piece(x, 0, 0, 24, 32, 20, 0);
         DUE.is("came over", x.task(0, 14), 5 + 15);
         x.step(0, 5);
         DUE.is("used", x.task(0, 5), 10);
         DUE.no("quiet(0): 4 times 10 are more than 32", x.quiet(0));
         x.step(0, 2);
         DUE.yes("quiet(0): 4 times 5 are not", x.quiet(0));
-        piece(x, 0, 0, 0, 16, 5, 0);
-        log(x, 0, 1, 0, 0, 16);
+        DUE.piece(x, 0, 0, 0, 16, 5, 0);
+        DUE.log(x, 0, 1, 0, 0, 16);
         DUE.is("smaller", x.task(0, 16), 1);
         DUE.is("count(7)", x.count(7), 1);
         DUE.is("came over", x.task(0, 14), 5 + 15 + 5);
@@ -382,7 +367,7 @@ public final class GrowingTest {
         Programs.forever(x, 1, 8);
         x.start(0, 0, 15, 0);
         x.step(0, 60);
-        piece(x, 0, 0, 64, 128, 80, 0);
+        DUE.piece(x, 0, 0, 64, 128, 80, 0);
         x.start(1, 1, 0, 1);
         x.step(1, 179);
         DUE.is("look(8)", x.look(8), 0);
@@ -391,7 +376,7 @@ public final class GrowingTest {
         DUE.no("quiet(0)", x.quiet(0));
         x.stop(1);
         DUE.yes("quiet(0)", x.quiet(0));
-        piece(x, 0, 0, 0, 64, 10, 0);
+        DUE.piece(x, 0, 0, 0, 64, 10, 0);
     }
 
     /** RED 10: while the leaf that is COVERED is the last FRAME, 4 times (8 and 10) are more than 64. */
@@ -446,7 +431,7 @@ public final class GrowingTest {
         DUE.no("no SPARE", x.quiet(0));
         x.step(0, 1);
         DUE.yes("a SPARE", x.quiet(0));
-        log(x, 0, 5, 0, 16, 16);
+        DUE.log(x, 0, 5, 0, 16, 16);
         DUE.is("PIECES", x.task(0, 6), 1);
         DUE.no("no SPARE any more", x.quiet(0));
     }
@@ -471,9 +456,9 @@ public final class GrowingTest {
         DUE.is("used", x.task(0, 5), 35);
         DUE.is("a POINTER before", x.slot(0, 3, 0, 1), 20);
         DUE.yes("join(0)", x.join(0));
-        piece(x, 0, 0, 64, 64, 35, 0);
+        DUE.piece(x, 0, 0, 64, 64, 35, 0);
         DUE.is("PIECES", x.task(0, 6), 1);
-        log(x, 0, 6, 0, 64, 64);
+        DUE.log(x, 0, 6, 0, 64, 64);
         DUE.is("MODE", x.task(0, 1), 0);
         DUE.is("came over", x.task(0, 14), 35);
         DUE.is("moved into a greater one", x.task(0, 13), 0);
@@ -500,13 +485,13 @@ public final class GrowingTest {
         Programs.same(x, 0, 8);
         x.start(0, 0, 3, 1);
         DUE.yes("join(0)", x.join(0));
-        piece(x, 0, 0, 16, 128, 10, 0);
+        DUE.piece(x, 0, 0, 16, 128, 10, 0);
         GrowingStacks y = new GrowingStacks();
         y.set(2, 0);
         Programs.same(y, 0, 8);
         y.start(0, 0, 3, 1);
         DUE.yes("join(0)", y.join(0));
-        piece(y, 0, 0, 16, 16, 10, 0);
+        DUE.piece(y, 0, 0, 16, 16, 10, 0);
         y.step(0, 1);
         DUE.is("RESULT", y.task(0, 2), 3);
         DUE.no("join(0), DONE", y.join(0));
@@ -543,15 +528,15 @@ public final class GrowingTest {
         DUE.is("nothing lies elsewhere", x.compact(), 0);
         DUE.is("place", x.frame(1, 2, 1), 80);
         x.step(1, 1);
-        piece(x, 1, 2, 80, 16, 0, 1);
+        DUE.piece(x, 1, 2, 80, 16, 0, 1);
         x.stop(0);
         DUE.is("compact()", x.compact(), 3);
-        piece(x, 1, 0, 0, 16, 10, 0);
-        piece(x, 1, 1, 16, 16, 10, 0);
-        piece(x, 1, 2, 32, 16, 0, 1);
-        log(x, 0, 7, 1, 32, 16);
-        log(x, 1, 7, 1, 16, 16);
-        log(x, 2, 7, 1, 0, 16);
+        DUE.piece(x, 1, 0, 0, 16, 10, 0);
+        DUE.piece(x, 1, 1, 16, 16, 10, 0);
+        DUE.piece(x, 1, 2, 32, 16, 0, 1);
+        DUE.log(x, 0, 7, 1, 32, 16);
+        DUE.log(x, 1, 7, 1, 16, 16);
+        DUE.log(x, 2, 7, 1, 0, 16);
         DUE.is("place", x.frame(1, 1, 1), 16);
         DUE.is("BASE", x.frame(1, 1, 6), 0);
         DUE.is("POINTER", x.slot(1, 1, 0, 1), 4);
@@ -573,7 +558,7 @@ public final class GrowingTest {
         }
         DUE.is("look(14)", x.look(14), 45);
         for (int i = 0; i < 40; i++) {
-            log(x, i, 9, (44 - i) % 6, -1, -1);
+            DUE.log(x, i, 9, (44 - i) % 6, -1, -1);
         }
         DUE.is("log(40, 0)", x.log(40, 0), -1);
         DUE.is("log(-1, 0)", x.log(-1, 0), -1);

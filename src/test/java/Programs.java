@@ -22,7 +22,12 @@ final class Programs {
      * RETURNS, and then 2 STEPS for each caller. 6 n and 3 STEPS, n and 1 FRAMES.
      */
     static void sum(GrowingStacks x, int f) {
-        x.function(f, 3, 0);
+        sum(x, f, 3);
+    }
+
+    /** The same with FRAMES of size and 2 WORDS. */
+    static void sum(GrowingStacks x, int f, int size) {
+        x.function(f, size, 0);
         x.line(f, SET, 1, -1, 0);
         x.line(f, JUMP, 0, 3, 0);
         x.line(f, RETURN, 0, 0, 0);
@@ -48,6 +53,40 @@ final class Programs {
     static void through(GrowingStacks x, int f, int size, int called) {
         x.function(f, size, 0);
         x.line(f, CALL, called, 0, 0);
+        x.line(f, RETURN, 0, 0, 0);
+    }
+
+    /** FUNCTIONS from .. to, each calls the next one; the last one RETURNS what all were called with. */
+    static void chain(GrowingStacks x, int from, int to, int size) {
+        for (int f = from; f < to; f++) {
+            through(x, f, size, f + 1);
+        }
+        same(x, to, size);
+    }
+
+    /** FUNCTIONS from f on, each calls the next one; DEEP of f is so many WORDS (3 .. 80). */
+    static void deepOf(GrowingStacks x, int f, int words) {
+        int left = words;
+        int at = f;
+        while (left > 10) {
+            int frame = left >= 13 ? 10 : left - 3;
+            through(x, at, frame - 2, at + 1);
+            left -= frame;
+            at++;
+        }
+        same(x, at, left - 2);
+    }
+
+    /** Only told: by one STEP it RETURNS 0. */
+    static void empty(GrowingStacks x, int f, int size) {
+        x.function(f, size, 0);
+    }
+
+    /** Calls two others, one after the other, with its number, and RETURNS what the second one RETURNS. */
+    static void both(GrowingStacks x, int f, int size, int first, int second) {
+        x.function(f, size, 0);
+        x.line(f, CALL, first, 0, 0);
+        x.line(f, CALL, second, 0, 0);
         x.line(f, RETURN, 0, 0, 0);
     }
 
