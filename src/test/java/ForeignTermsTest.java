@@ -17,6 +17,7 @@ public final class ForeignTermsTest {
         fewerBehindWaitingIsOut();
         overAtOnceWithoutAFunction();
         overAtOnceIfNotTold();
+        overAtOnceFarFromPlaceZero();
         calledBackWithSlotC();
         overAsItReturns();
         notOverAsAnotherReturns();
@@ -269,6 +270,29 @@ public final class ForeignTermsTest {
         DUE.is("count(9)", x.count(9), 1);
         DUE.is("count(11)", x.count(11), 0);
         DUE.is("SIDE", x.task(0, 8), -1);
+    }
+
+    /** The same far from place 0, out of a FRAME in a second PIECE, of a FUNCTION that is not the first one. */
+    private static void overAtOnceFarFromPlaceZero() {
+        GrowingStacks x = new GrowingStacks();
+        x.set(2, 0);
+        Programs.through(x, 4, 8, 7);
+        x.function(7, 8, 0);
+        for (int s = 0; s < 8; s++) {
+            x.line(7, Programs.SET, s, 50 + s, 0);
+        }
+        x.line(7, Programs.FOREIGN, 3, 0, 5);
+        x.line(7, Programs.FOREIGN, 2, -1, 6);
+        x.start(5, 4, 9, 0);
+        x.start(3, 4, 9, 1);
+        x.step(3, 9);
+        x.step(3, 1);
+        DUE.slots(x, 3, 1, 50, 51, 52, 53, 54, 166, 56, 57);
+        x.step(3, 1);
+        DUE.slots(x, 3, 1, 50, 51, 52, 53, 54, 166, 169, 57);
+        DUE.slots(x, 3, 0, 9, 0, 0, 0, 0, 0, 0, 0);
+        DUE.slots(x, 5, 0, 9, 0, 0, 0, 0, 0, 0, 0);
+        DUE.is("LINE", x.task(3, 11), 10);
     }
 
     /** "Else that is called with SLOT c". */

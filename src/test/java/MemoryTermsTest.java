@@ -27,9 +27,11 @@ public final class MemoryTermsTest {
         roomOfTheLastPieceAlone();
         twiceOrFourTimes();
         enoughForWhatIsUsedAndNeed();
+        enoughForWhatIsUsedNow();
         allWordsComeAlong();
         oldPieceIsGivenBackThen();
         spareHasNeedWords();
+        spareAmongOthers();
         spareIsGivenBackFirst();
         firstOrNeedTheGreater();
         outWithoutAGap();
@@ -494,6 +496,31 @@ public final class MemoryTermsTest {
         }
     }
 
+    /** The same: what was used before counts for nothing. */
+    private static void enoughForWhatIsUsedNow() {
+        GrowingStacks x = new GrowingStacks();
+        x.set(0, 8);
+        x.set(2, 0);
+        x.function(0, 1, 0);
+        x.line(0, Programs.CALL, 1, 0, 0);
+        x.line(0, Programs.QUIET, 0, 0, 0);
+        x.line(0, Programs.QUIET, 0, 0, 0);
+        x.line(0, Programs.QUIET, 0, 0, 0);
+        x.line(0, Programs.CALL, 6, 0, 0);
+        Programs.chain(x, 1, 5, 8);
+        Programs.same(x, 6, 8);
+        x.start(0, 0, 5, 0);
+        x.step(0, 10);
+        DUE.is("WORDS", x.task(0, 7), 64);
+        DUE.is("the most WORDS used at once", x.task(0, 18), 53);
+        x.step(0, 3);
+        DUE.is("three times smaller", x.task(0, 16), 3);
+        DUE.is("WORDS", x.task(0, 7), 8);
+        x.step(0, 1);
+        DUE.is("3 and 10 are used", x.task(0, 5), 13);
+        DUE.is("WORDS", x.task(0, 7), 16);
+    }
+
     /** "there all WORDS that are used come, each BASE and each POINTER (but NONE) by as much as the PIECE has been moved". */
     private static void allWordsComeAlong() {
         GrowingStacks x = new GrowingStacks();
@@ -554,6 +581,8 @@ public final class MemoryTermsTest {
             x.start(0, 0, 5, 1);
             x.step(0, 4);
             DUE.piece(x, 0, 1, 16, 20, 0, 1);
+            DUE.is("WORDS of all its PIECES", x.task(0, 7), 36);
+            DUE.is("look(6)", x.look(6), 36);
             x.step(0, 1);
             boolean again = need <= 20;
             DUE.is("SPLITS", x.task(0, 15), again ? 1 : 2);
@@ -564,6 +593,28 @@ public final class MemoryTermsTest {
             DUE.is("lines of THE LOG", x.look(14), again ? 3 : 4);
             DUE.is("PIECES", x.task(0, 6), 2);
         }
+    }
+
+    /** The same with others before it: its PIECES have 16 WORDS each, its SPARE 20. */
+    private static void spareAmongOthers() {
+        GrowingStacks x = new GrowingStacks();
+        x.set(3, 21);
+        Programs.through(x, 0, 8, 1);
+        Programs.through(x, 1, 8, 2);
+        Programs.deepOf(x, 2, 20);
+        x.start(1, 0, 5, 0);
+        x.start(2, 0, 5, 0);
+        x.start(0, 0, 5, 1);
+        x.step(0, 2);
+        x.step(0, 3);
+        DUE.is("need(2)", x.need(2), 20);
+        DUE.is("PIECES", x.task(0, 6), 3);
+        DUE.piece(x, 0, 2, 64, 20, 0, 1);
+        DUE.is("WORDS of all its PIECES", x.task(0, 7), 16 + 16 + 20);
+        DUE.is("look(6)", x.look(6), 5 * 16 + 4);
+        x.step(0, 1);
+        DUE.piece(x, 0, 1, 48, 16, 0, 1);
+        DUE.is("WORDS of all its PIECES", x.task(0, 7), 32);
     }
 
     /** "else the SPARE is given back first": so the new PIECE can lie where it lay. */

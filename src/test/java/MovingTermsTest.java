@@ -270,8 +270,11 @@ public final class MovingTermsTest {
         GrowingStacks x = linkedWithSpare();
         DUE.slots(x, 0, 0, 3, 9, -1, 0, 0, 0, 0, 20);
         DUE.slots(x, 0, 1, 9, 21, -1, 0, 0, 0, 0, 0);
+        DUE.is("the most WORDS used at once", x.task(0, 18), 30);
         DUE.yes("join(0)", x.join(0));
         DUE.piece(x, 0, 0, 48, 32, 20, 0);
+        DUE.is("came over what is used", x.task(0, 14), 20);
+        DUE.is("count(5)", x.count(5), 20);
         DUE.slots(x, 0, 0, 3, 57, -1, 0, 0, 0, 0, 20);
         DUE.slots(x, 0, 1, 57, 63, -1, 0, 0, 0, 0, 0);
         int[][] frames = {{0, 48, 0, 0, 3, 0, -1, 0}, {1, 58, 0, 0, 2, 0, 48, 3}};

@@ -35,6 +35,7 @@ public final class ProgramTermsTest {
         slotsAreZeroOrNowhere();
         slotZero();
         notToldReturnsAtOnce();
+        notToldFarFromPlaceZero();
         DUE.end();
     }
 
@@ -613,5 +614,29 @@ public final class ProgramTermsTest {
             DUE.is("COVERED without a CHECK", x.count(11), 0);
             DUE.is("step(0, 9)", x.step(0, 9), 1);
         }
+    }
+
+    /** The same far from place 0, out of a FRAME in a second PIECE, of a FUNCTION that is not the first one. */
+    private static void notToldFarFromPlaceZero() {
+        GrowingStacks x = new GrowingStacks();
+        x.set(2, 0);
+        Programs.through(x, 4, 8, 7);
+        x.function(7, 8, 0);
+        for (int s = 0; s < 8; s++) {
+            x.line(7, Programs.SET, s, 50 + s, 0);
+        }
+        x.line(7, Programs.CALL, 0, 2, 5);
+        x.line(7, Programs.CALL, 1, 5, 6);
+        x.start(5, 4, 9, 0);
+        x.start(3, 4, 9, 1);
+        x.step(3, 9);
+        DUE.slots(x, 3, 1, 50, 51, 52, 53, 54, 55, 56, 57);
+        x.step(3, 1);
+        DUE.slots(x, 3, 1, 50, 51, 52, 53, 54, 0, 56, 57);
+        x.step(3, 1);
+        DUE.slots(x, 3, 1, 50, 51, 52, 53, 54, 0, 0, 57);
+        DUE.slots(x, 3, 0, 9, 0, 0, 0, 0, 0, 0, 0);
+        DUE.slots(x, 5, 0, 9, 0, 0, 0, 0, 0, 0, 0);
+        DUE.is("LINE", x.task(3, 11), 10);
     }
 }

@@ -22,11 +22,13 @@ public final class ThoughtTermsTest {
         aloneTwoThousandSteps();
         aloneBehindAStep();
         aloneLeastFirst();
+        aloneLeastFirstByCalls();
         nothingStays();
         gapsByPlaces();
         imageOfAll();
         imageMoreThanOnce();
         imageOfEachKind();
+        imageOfTenFunctions();
         noImage();
         DUE.end();
     }
@@ -360,6 +362,24 @@ public final class ThoughtTermsTest {
         }
     }
 
+    /** The same: by what is used as the call comes, not by what was used before, or by a call that never comes. */
+    private static void aloneLeastFirstByCalls() {
+        for (int mode = 0; mode < 2; mode++) {
+            GrowingStacks x = new GrowingStacks();
+            x.set(2, 0);
+            Programs.both(x, 0, 1, 1, 3);
+            Programs.through(x, 1, 5, 2);
+            Programs.same(x, 2, 4);
+            Programs.same(x, 3, 8);
+            DUE.is("3, 7 and 6, then 3 and 10: alone(0, 5, " + mode + ", 6)", x.alone(0, 5, mode, 6), 16);
+            Programs.same(x, 2, 5);
+            DUE.is("3, 7 and 7: alone(0, 5, " + mode + ", 6)", x.alone(0, 5, mode, 6), 32);
+            Programs.same(x, 1, 5);
+            x.line(1, Programs.CALL, 2, 0, 0);
+            DUE.is("3 and 10: alone(0, 5, " + mode + ", 6)", x.alone(0, 5, mode, 6), 16);
+        }
+    }
+
     /** "(Nothing of all that stays.)" */
     private static void nothingStays() {
         GrowingStacks x = new GrowingStacks();
@@ -531,6 +551,34 @@ public final class ThoughtTermsTest {
         x.image(false);
         DUE.is("look(14)", x.look(14), 1);
         DUE.log(x, 0, 0, 0, 16, 32);
+    }
+
+    /** The same of all ten FUNCTIONS. */
+    private static void imageOfTenFunctions() {
+        GrowingStacks x = new GrowingStacks();
+        for (int f = 0; f < 10; f++) {
+            x.function(f, 3, f % 4 * 2);
+            x.line(f, Programs.SET, 0, f, 0);
+            x.line(f, Programs.CALL, f + 1 < 10 ? f + 1 : 0, 0, 0);
+        }
+        x.function(4, 3, 0);
+        x.image(true);
+        String before = WholeTest.all(x);
+        for (int f = 0; f < 10; f++) {
+            x.function(f, 8, 0);
+            x.line(f, Programs.RETURN, 1, 0, 0);
+        }
+        x.image(false);
+        DUE.yes("all is as it was", before.equals(WholeTest.all(x)));
+        for (int f = 0; f < 10; f++) {
+            int deep = f == 4 ? 5 : 5 * ((14 - f) % 10 + 1);
+            DUE.is("deep(" + f + ")", x.deep(f), deep);
+            x.start(0, f, 7, 0);
+            DUE.slots(x, 0, 0, 7, f % 4 % 2 == 1 && f != 4 ? -1 : 0, f % 4 / 2 == 1 && f != 4 ? -1 : 0);
+            x.step(0, 1);
+            DUE.is("SLOT 0 of FUNCTION " + f, x.slot(0, 0, 0, 1), f == 4 ? Programs.NO_WORD : f);
+            x.stop(0);
+        }
     }
 
     /** A refused call: there is no image, so all stays as it is. */
