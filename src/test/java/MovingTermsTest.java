@@ -22,6 +22,7 @@ public final class MovingTermsTest {
         joinedNothingWithoutAGap();
         compactByPlaces();
         compactOverItself();
+        compactOfASpareUsedAgain();
         compactOfWhatLiesTogether();
         logOfTheLatestForty();
         logPlaceThen();
@@ -419,6 +420,37 @@ public final class MovingTermsTest {
         }
         DUE.is("never(1)", x.never(1), 0);
         DUE.is("never(2)", x.never(2), 0);
+    }
+
+    /** The same of a SPARE that is the last PIECE again, and of one that is SPARE again. */
+    private static void compactOfASpareUsedAgain() {
+        GrowingStacks x = new GrowingStacks();
+        x.set(2, 0);
+        Programs.loop(x, 0, 8, 1);
+        Programs.same(x, 1, 8);
+        x.start(0, 0, 5, 0);
+        x.start(1, 0, 5, 0);
+        x.start(2, 0, 5, 0);
+        x.start(4, 0, 5, 1);
+        x.step(4, 6);
+        DUE.is("the SPARE is the last one", x.task(4, 17), 1);
+        DUE.is("never(2)", x.never(2), 0);
+        x.stop(1);
+        DUE.is("compact()", x.compact(), 3);
+        DUE.log(x, 0, 7, 4, 48, 16);
+        DUE.log(x, 1, 7, 4, 32, 16);
+        DUE.log(x, 2, 7, 2, 16, 16);
+        DUE.is("PIECE of FRAME 1", x.frame(4, 1, 2), 1);
+        x.step(4, 1);
+        DUE.piece(x, 4, 1, 48, 16, 0, 1);
+        x.stop(2);
+        DUE.is("compact()", x.compact(), 2);
+        DUE.log(x, 0, 7, 4, 32, 16);
+        DUE.log(x, 1, 7, 4, 16, 16);
+        DUE.is("never(1)", x.never(1), 0);
+        DUE.is("never(2)", x.never(2), 0);
+        x.step(4, 200);
+        DUE.is("RESULT", x.task(4, 2), 1);
     }
 
     /** The same of nothing, of what begins at place 0 and lies together, and twice. */

@@ -18,6 +18,7 @@ public final class ThoughtTermsTest {
         landInTheRealMemory();
         landWithTheSidesThatThereAre();
         aloneWithoutOthers();
+        aloneAsATaskThatIsAlone();
         aloneBySettings();
         aloneTwoThousandSteps();
         aloneBehindAStep();
@@ -263,6 +264,41 @@ public final class ThoughtTermsTest {
         DUE.is("SIDES that a TASK has", x.look(9), 1);
         for (int what = 0; what < 7; what++) {
             DUE.is("alone(1, 9, 0, " + what + ")", x.alone(1, 9, 0, what), before[what]);
+        }
+    }
+
+    /** The same: as it is in an object where there is no other TASK indeed. */
+    private static void aloneAsATaskThatIsAlone() {
+        GrowingStacks thinking = new GrowingStacks();
+        GrowingStacks going = new GrowingStacks();
+        for (int i = 0; i < 2; i++) {
+            GrowingStacks x = i == 0 ? thinking : going;
+            x.set(0, 11);
+            x.set(3, 20);
+            for (int f = 0; f < 5; f++) {
+                Programs.sum(x, f, 3 + f);
+                Programs.both(x, 5 + f, 8 - f, f, (f + 1) % 5);
+            }
+            Programs.loop(x, 7, 3, 8);
+            Programs.same(x, 8, 8);
+        }
+        int[] whats = {0, 3, 12, 14, 15};
+        for (int f = 0; f < 10; f++) {
+            for (int a = -1; a <= 9; a++) {
+                for (int mode = 0; mode < 2; mode++) {
+                    String call = "alone(" + f + ", " + a + ", " + mode + ", ";
+                    going.start(0, f, a, mode);
+                    int most = going.task(0, 7);
+                    for (int i = 0; i < 2000 && going.step(0, 1) == 1; i++) {
+                        most = Math.max(most, going.task(0, 7));
+                    }
+                    for (int what = 0; what < 5; what++) {
+                        DUE.is(call + what + ")", thinking.alone(f, a, mode, what), going.task(0, whats[what]));
+                    }
+                    DUE.is(call + "5)", thinking.alone(f, a, mode, 5), most);
+                    going.stop(0);
+                }
+            }
         }
     }
 
