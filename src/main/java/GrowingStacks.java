@@ -163,7 +163,7 @@ public final class GrowingStacks {
         if (!isTask(task) || now.tasks[task].on() || !now.program.told(f)) {
             return false;
         }
-        return (mode == COPIED || mode == LINKED) && machine.begin(task, f, a, mode);
+        return (mode == COPIED || mode == LINKED) && machine.begin(now.tasks[task], f, a, mode);
     }
 
     public int step(int task, int n) {
@@ -226,7 +226,7 @@ public final class GrowingStacks {
     }
 
     public int deep(int f) {
-        return now.program.told(f) ? now.program.deeps[f] : NONE;
+        return now.program.told(f) ? now.program.deepOf(f) : NONE;
     }
 
     public int need(int f) {
@@ -268,7 +268,7 @@ public final class GrowingStacks {
         }
         Walk w = now.walk;
         w.toFrame(now.tasks[task], i);
-        int back = now.memory[w.place + BACK];
+        int back = now.memory.word(w.place + BACK);
         switch (what) {
             case 0: return w.function;
             case 1: return w.place;
@@ -276,7 +276,7 @@ public final class GrowingStacks {
             case 3: return (back & COVERED) != 0 ? 1 : 0;
             case 4: return w.line;
             case 5: return (back & CALLED_BACK) != 0 ? 1 : 0;
-            case 6: return now.memory[w.place];
+            case 6: return now.memory.word(w.place);
             case 7: return back;
             default: return NONE;
         }
@@ -292,7 +292,7 @@ public final class GrowingStacks {
             return NO_WORD;
         }
         boolean pointer = now.program.isPointer(f, s);
-        int word = now.memory[now.walk.place + SLOTS + s];
+        int word = now.memory.word(now.walk.place + SLOTS + s);
         if (what == 0) {
             return pointer ? 1 : 0;
         }
@@ -316,9 +316,9 @@ public final class GrowingStacks {
             return NONE;
         }
         switch (what) {
-            case 0: return now.pieces.place[id];
-            case 1: return now.pieces.words[id];
-            case 2: return now.pieces.used[id];
+            case 0: return now.pieces.placeOf(id);
+            case 1: return now.pieces.wordsOf(id);
+            case 2: return now.pieces.usedOf(id);
             case 3: return id == t.spare ? 1 : 0;
             default: return NONE;
         }
@@ -454,7 +454,7 @@ public final class GrowingStacks {
         thought.settings[MERGE] = 0;
         thought.settings[SIDE] = ENDLESS_SIDE;
         Task t = thought.tasks[0];
-        thinker.begin(0, f, a, COPIED);
+        thinker.begin(t, f, a, COPIED);
         for (int i = 0; i < STEPS_IN_THOUGHT && t.on(); i++) {
             thinker.makeStep(t);
         }
@@ -467,7 +467,7 @@ public final class GrowingStacks {
         System.arraycopy(now.settings, 0, thought.settings, 0, SETTINGS);
         thought.settings[FIRST] = first;
         Task t = thought.tasks[0];
-        thinker.begin(0, f, a, mode);
+        thinker.begin(t, f, a, mode);
         int most = thought.pieces.taken;
         for (int i = 0; i < STEPS_IN_THOUGHT && t.on(); i++) {
             thinker.makeStep(t);
@@ -495,19 +495,31 @@ public final class GrowingStacks {
         final int[] deeps = new int[FUNCTIONS];
 
         boolean told(int f) {
-            return isFunction(f) && sizes[f] > 0;
+            return sizeOf(f) > 0;
+        }
+
+        int sizeOf(int f) {
+            return f >= 0 && f < FUNCTIONS ? sizes[f] : 0;
+        }
+
+        int linesOf(int f) {
+            return isFunction(f) ? lines[f] : 0;
+        }
+
+        int deepOf(int f) {
+            return isFunction(f) ? deeps[f] : 0;
         }
 
         int frameWords(int f) {
-            return SLOTS + sizes[f];
+            return SLOTS + sizeOf(f);
         }
 
         boolean hasSlot(int f, int s) {
-            return s >= 0 && s < sizes[f];
+            return s >= 0 && s < sizeOf(f);
         }
 
         boolean isPointer(int f, int s) {
-            return (pointers[f] >> s & 1) == 1;
+            return f >= 0 && f < FUNCTIONS && (pointers[f] >> s & 1) == 1;
         }
 
         boolean hasNumber(int f, int s) {
@@ -518,11 +530,19 @@ public final class GrowingStacks {
             return hasSlot(f, s) && isPointer(f, s);
         }
 
+        /** One of a LINE's KIND, A, B, C; NONE, if there is no such LINE. */
         int part(int f, int number, int part) {
-            return code[(f * MOST_LINES + number) * PARTS + part];
+            if (f < 0 || f >= FUNCTIONS || number < 0 || number >= lines[f]) {
+                return NONE;
+            }
+            int at = (f * MOST_LINES + number) * PARTS + part;
+            return at >= 0 && at < code.length ? code[at] : NONE;
         }
 
         void tell(int f, int size, int bits) {
+            if (!isFunction(f)) {
+                return;
+            }
             sizes[f] = size;
             pointers[f] = bits;
             lines[f] = 0;
@@ -546,8 +566,8 @@ public final class GrowingStacks {
         }
 
         int append(int f, int kind, int a, int b, int c) {
-            int number = lines[f];
-            if (number >= MOST_LINES) {
+            int number = linesOf(f);
+            if (!isFunction(f) || number >= MOST_LINES) {
                 return NONE;
             }
             int at = (f * MOST_LINES + number) * PARTS;
@@ -581,18 +601,17 @@ public final class GrowingStacks {
 
         private int deepByLines(int f) {
             int greatest = 0;
-            for (int i = 0; i < lines[f]; i++) {
-                int called = calledBy(f, i);
-                if (called != NONE) {
-                    if (deeps[called] == DEEP_ENDLESS) {
-                        return DEEP_ENDLESS;
-                    }
-                    greatest = Math.max(greatest, deeps[called]);
+            for (int i = 0; i < linesOf(f); i++) {
+                int deep = deepOf(calledBy(f, i));
+                if (deep == DEEP_ENDLESS) {
+                    return DEEP_ENDLESS;
                 }
+                greatest = Math.max(greatest, deep);
             }
             return frameWords(f) + greatest;
         }
 
+        /** NONE, if this LINE calls nobody. */
         private int calledBy(int f, int number) {
             int kind = part(f, number, KIND);
             if (kind == CALL) {
@@ -626,8 +645,39 @@ public final class GrowingStacks {
         }
     }
 
+    /** THE MEMORY: a place that is none has the WORD NONE, and what comes there is lost. */
+    private static final class Memory {
+        final int[] words;
+
+        Memory(int size) {
+            words = new int[Math.max(size, 0)];
+        }
+
+        int word(int at) {
+            return at >= 0 && at < words.length ? words[at] : NONE;
+        }
+
+        void put(int at, int word) {
+            if (at >= 0 && at < words.length) {
+                words[at] = word;
+            }
+        }
+
+        void bring(int from, int to, int number) {
+            int last = words.length - number;
+            if (number > 0 && from >= 0 && from <= last && to >= 0 && to <= last) {
+                System.arraycopy(words, from, words, to, number);
+            }
+        }
+
+        /** As many as both have: an ENDLESS stack has more of them. */
+        void takeOver(Memory other) {
+            System.arraycopy(other.words, 0, words, 0, Math.min(words.length, other.words.length));
+        }
+    }
+
     /**
-     * The PIECES that are taken, each by an id that stays as it is moved.
+     * The PIECES that are taken, each by an id that stays as it is moved (NONE: no PIECE).
      * The ids stand in order by places; behind them stand those that are free.
      */
     private static final class Pieces {
@@ -653,57 +703,129 @@ public final class GrowingStacks {
             limit = newLimit;
         }
 
-        int gapFrom(int i) {
-            return i == 0 ? 0 : place[order[i - 1]] + words[order[i - 1]];
+        int placeOf(int id) {
+            return id >= 0 && id < MOST_PIECES ? place[id] : NONE;
         }
 
-        int gapTo(int i) {
-            return i < number ? place[order[i]] : limit;
+        int wordsOf(int id) {
+            return id >= 0 && id < MOST_PIECES ? words[id] : 0;
+        }
+
+        int usedOf(int id) {
+            return id >= 0 && id < MOST_PIECES ? used[id] : 0;
+        }
+
+        int belowOf(int id) {
+            return id >= 0 && id < MOST_PIECES ? below[id] : NONE;
+        }
+
+        int ownerOf(int id) {
+            return id >= 0 && id < MOST_PIECES ? owner[id] : NONE;
+        }
+
+        int shiftOf(int id) {
+            return id >= 0 && id < MOST_PIECES ? shift[id] : 0;
+        }
+
+        /** The place behind its last WORD. */
+        int endOf(int id) {
+            return id >= 0 && id < MOST_PIECES ? place[id] + words[id] : 0;
+        }
+
+        /** The place behind its last FRAME. */
+        int topOf(int id) {
+            return id >= 0 && id < MOST_PIECES ? place[id] + used[id] : 0;
+        }
+
+        void use(int id, int more) {
+            if (id >= 0 && id < MOST_PIECES) {
+                used[id] += more;
+            }
+        }
+
+        void putOver(int id, int under) {
+            if (id >= 0 && id < MOST_PIECES) {
+                below[id] = under;
+            }
+        }
+
+        void aimAt(int id, int newPlace) {
+            if (id >= 0 && id < MOST_PIECES) {
+                shift[id] = newPlace - place[id];
+            }
+        }
+
+        /** It lies now where it was aimed at; whether that is elsewhere. */
+        boolean settle(int id) {
+            if (id < 0 || id >= MOST_PIECES || shift[id] == 0) {
+                return false;
+            }
+            place[id] += shift[id];
+            return true;
+        }
+
+        /** The one that stands so in order. */
+        int idAt(int rank) {
+            return rank >= 0 && rank < number && rank < MOST_PIECES ? order[rank] : NONE;
+        }
+
+        int gapFrom(int rank) {
+            return endOf(idAt(rank - 1));
+        }
+
+        int gapTo(int rank) {
+            return rank < number ? placeOf(idAt(rank)) : limit;
         }
 
         int take(int wanted, int task, int under) {
-            if (number >= MOST_PIECES) {
-                return NONE;
-            }
             for (int i = 0; i <= number; i++) {
                 int from = gapFrom(i);
                 if (gapTo(i) - from >= wanted) {
                     int id = insert(i);
-                    place[id] = from;
-                    words[id] = wanted;
-                    used[id] = 0;
-                    below[id] = under;
-                    owner[id] = task;
-                    taken += wanted;
+                    if (id >= 0 && id < MOST_PIECES) {
+                        place[id] = from;
+                        words[id] = wanted;
+                        used[id] = 0;
+                        below[id] = under;
+                        owner[id] = task;
+                        taken += wanted;
+                    }
                     return id;
                 }
             }
             return NONE;
         }
 
-        private int insert(int at) {
+        private int insert(int rank) {
+            if (rank < 0 || rank > number || number >= MOST_PIECES) {
+                return NONE;
+            }
             int id = order[number];
-            System.arraycopy(order, at, order, at + 1, number - at);
-            order[at] = id;
+            System.arraycopy(order, rank, order, rank + 1, number - rank);
+            order[rank] = id;
             number++;
             return id;
         }
 
         void giveBack(int id) {
-            int at = rankOf(place[id]);
+            int rank = rankOf(placeOf(id));
+            if (id == NONE || rank < 0 || rank >= number || idAt(rank) != id) {
+                return;
+            }
             number--;
-            System.arraycopy(order, at + 1, order, at, number - at);
+            System.arraycopy(order, rank + 1, order, rank, number - rank);
             order[number] = id;
-            taken -= words[id];
+            taken -= wordsOf(id);
         }
 
         /** Which in order the PIECE is that begins at a place, or the last one before it. */
         private int rankOf(int at) {
             int low = 0;
             int high = number - 1;
-            for (int i = 0; i < MOST_PIECES && low < high; i++) {
+            for (int i = 0; i < MOST_PIECES && low < high && high < MOST_PIECES; i++) {
                 int middle = (low + high + 1) / 2;
-                if (place[order[middle]] <= at) {
+                int id = order[middle];
+                if (id >= 0 && id < MOST_PIECES && place[id] <= at) {
                     low = middle;
                 } else {
                     high = middle - 1;
@@ -713,17 +835,17 @@ public final class GrowingStacks {
         }
 
         int holding(int at) {
-            return order[rankOf(at)];
+            return idAt(rankOf(at));
         }
 
         int turned(int at) {
-            return at == NONE ? NONE : at + shift[order[rankOf(at)]];
+            return at == NONE ? NONE : at + shiftOf(idAt(rankOf(at)));
         }
 
         /** How many PIECES of its STACK lie before this one. */
         int indexOf(int id) {
             int n = 0;
-            for (int p = below[id]; p != NONE && n < MOST_PIECES; p = below[p]) {
+            for (int p = belowOf(id); p != NONE && n < MOST_PIECES; p = belowOf(p)) {
                 n++;
             }
             return n;
@@ -855,11 +977,13 @@ public final class GrowingStacks {
 
         void write(int what, int task, int place, int words) {
             int at = total % LOG_LINES * 4;
-            facts[at] = what;
-            facts[at + 1] = task;
-            facts[at + 2] = place;
-            facts[at + 3] = words;
-            total++;
+            if (at >= 0 && at + 3 < facts.length) {
+                facts[at] = what;
+                facts[at + 1] = task;
+                facts[at + 2] = place;
+                facts[at + 3] = words;
+                total++;
+            }
         }
 
         int read(int i, int what) {
@@ -877,12 +1001,12 @@ public final class GrowingStacks {
 
     /** A way over the FRAMES of a TASK from the last one on: just a BACK tells who called. */
     private static final class Walk {
-        final int[] memory;
+        final Memory memory;
         int place;
         int function;
         int line;
 
-        Walk(int[] memory) {
+        Walk(Memory memory) {
             this.memory = memory;
         }
 
@@ -894,8 +1018,8 @@ public final class GrowingStacks {
 
         /** Behind the first FRAME the place is NONE: nobody may go on from there. */
         void toCaller() {
-            int back = memory[place + BACK];
-            place = memory[place];
+            int back = memory.word(place + BACK);
+            place = memory.word(place);
             function = (back & WAY_BITS) >> 5;
             line = back & LINE_BITS;
         }
@@ -926,7 +1050,7 @@ public final class GrowingStacks {
     private static final class World {
         final Program program;
         final int[] settings = new int[SETTINGS];
-        final int[] memory;
+        final Memory memory;
         final Pieces pieces = new Pieces();
         final Task[] tasks = new Task[TASKS];
         final Log log = new Log();
@@ -936,7 +1060,7 @@ public final class GrowingStacks {
 
         World(int words, Program program) {
             this.program = program;
-            memory = new int[words];
+            memory = new Memory(words);
             walk = new Walk(memory);
             for (int i = 0; i < TASKS; i++) {
                 tasks[i] = new Task(i);
@@ -959,7 +1083,7 @@ public final class GrowingStacks {
         /** All but the program. */
         void takeOver(World other) {
             System.arraycopy(other.settings, 0, settings, 0, SETTINGS);
-            System.arraycopy(other.memory, 0, memory, 0, MEMORY_WORDS);
+            memory.takeOver(other.memory);
             pieces.takeOver(other.pieces);
             for (int i = 0; i < TASKS; i++) {
                 tasks[i].takeOver(other.tasks[i]);
@@ -970,12 +1094,14 @@ public final class GrowingStacks {
         }
 
         void add(Task t, int what, int n) {
-            t.sums[what] += n;
-            sums[what] += n;
+            if (what >= 0 && what < SUMS) {
+                t.sums[what] += n;
+                sums[what] += n;
+            }
         }
 
-        void writeLog(int what, Task t, int piece) {
-            log.write(what, t.number, pieces.place[piece], pieces.words[piece]);
+        void writeLog(int what, int piece) {
+            log.write(what, pieces.ownerOf(piece), pieces.placeOf(piece), pieces.wordsOf(piece));
         }
 
         boolean busy() {
@@ -1012,16 +1138,16 @@ public final class GrowingStacks {
         }
 
         boolean covers(int f) {
-            int deep = program.deeps[f];
+            int deep = program.deepOf(f);
             return settings[MERGE] == 1 && deep != DEEP_ENDLESS && deep <= settings[RED];
         }
 
         int needOf(int f) {
-            return covers(f) ? program.deeps[f] : program.frameWords(f);
+            return covers(f) ? program.deepOf(f) : program.frameWords(f);
         }
 
         boolean lastCovered(Task t) {
-            return t.frames > 0 && (memory[t.place + BACK] & COVERED) != 0;
+            return t.frames > 0 && (memory.word(t.place + BACK) & COVERED) != 0;
         }
 
         int piecesOf(Task t) {
@@ -1032,11 +1158,11 @@ public final class GrowingStacks {
         }
 
         int wordsOf(Task t) {
-            int n = t.spare == NONE ? 0 : pieces.words[t.spare];
+            int n = pieces.wordsOf(t.spare);
             int p = t.last;
             for (int i = 0; i < MOST_PIECES && p != NONE; i++) {
-                n += pieces.words[p];
-                p = pieces.below[p];
+                n += pieces.wordsOf(p);
+                p = pieces.belowOf(p);
             }
             return n;
         }
@@ -1052,7 +1178,7 @@ public final class GrowingStacks {
             }
             int id = t.last;
             for (int at = lastIndex; at > i; at--) {
-                id = pieces.below[id];
+                id = pieces.belowOf(id);
             }
             return id;
         }
@@ -1062,12 +1188,10 @@ public final class GrowingStacks {
             int p = t.last;
             for (int i = 0; i < MOST_PIECES && p != NONE; i++) {
                 pieces.giveBack(p);
-                p = pieces.below[p];
+                p = pieces.belowOf(p);
             }
-            if (t.spare != NONE) {
-                pieces.giveBack(t.spare);
-                t.spare = NONE;
-            }
+            pieces.giveBack(t.spare);
+            t.spare = NONE;
         }
     }
 
@@ -1075,7 +1199,7 @@ public final class GrowingStacks {
     private static final class Mover {
         final World world;
         final Pieces pieces;
-        final int[] memory;
+        final Memory memory;
 
         Mover(World world) {
             this.world = world;
@@ -1090,27 +1214,27 @@ public final class GrowingStacks {
             if (id == NONE) {
                 return false;
             }
-            pieces.shift[old] = pieces.place[id] - pieces.place[old];
+            pieces.aimAt(old, pieces.placeOf(id));
             turnPlaces(t);
             bringOver(old);
-            pieces.used[id] = t.used;
+            pieces.use(id, t.used);
             pieces.giveBack(old);
             t.last = id;
             world.add(t, SUM_CAME_OVER, t.used);
             world.add(t, logged == LOG_GREATER ? SUM_GREATER : SUM_SMALLER, 1);
-            world.writeLog(logged, t, id);
+            world.writeLog(logged, id);
             return true;
         }
 
         /** LINKED: another PIECE is the last one; false, if there is no gap for it. */
         boolean linkPiece(Task t, int need) {
             int id = t.spare;
-            if (id != NONE && pieces.words[id] >= need) {
+            if (id != NONE && pieces.wordsOf(id) >= need) {
                 t.spare = NONE;
-                pieces.below[id] = t.last;
+                pieces.putOver(id, t.last);
                 t.last = id;
                 world.add(t, SUM_AGAIN, 1);
-                world.writeLog(LOG_AGAIN, t, id);
+                world.writeLog(LOG_AGAIN, id);
                 return true;
             }
             dropSpare(t);
@@ -1120,20 +1244,20 @@ public final class GrowingStacks {
             }
             t.last = id;
             world.add(t, SUM_SPLITS, 1);
-            world.writeLog(LOG_SPLIT, t, id);
+            world.writeLog(LOG_SPLIT, id);
             return true;
         }
 
         /** LINKED: the last PIECE has no FRAME any more. */
         void leavePiece(Task t) {
             int id = t.last;
-            t.last = pieces.below[id];
+            t.last = pieces.belowOf(id);
             if (world.settings[HOT] == 1) {
                 dropSpare(t);
                 t.spare = id;
-                world.writeLog(LOG_SPARE, t, id);
+                world.writeLog(LOG_SPARE, id);
             } else {
-                world.writeLog(LOG_GIVEN_BACK, t, id);
+                world.writeLog(LOG_GIVEN_BACK, id);
                 pieces.giveBack(id);
             }
         }
@@ -1144,7 +1268,7 @@ public final class GrowingStacks {
                 return false;
             }
             t.spare = NONE;
-            world.writeLog(LOG_GIVEN_BACK, t, id);
+            world.writeLog(LOG_GIVEN_BACK, id);
             pieces.giveBack(id);
             return true;
         }
@@ -1159,7 +1283,7 @@ public final class GrowingStacks {
             if (t.mode == LINKED) {
                 return dropSpare(t);
             }
-            int words = pieces.words[t.last];
+            int words = pieces.wordsOf(t.last);
             if (4 * keptWords(t) > words || words / 2 < world.settings[FIRST]) {
                 return false;
             }
@@ -1172,25 +1296,25 @@ public final class GrowingStacks {
             if (id == NONE) {
                 return false;
             }
-            int end = pieces.place[id] + t.used;
+            int end = pieces.placeOf(id) + t.used;
             int p = t.last;
             for (int i = 0; i < MOST_PIECES && p != NONE; i++) {
-                end -= pieces.used[p];
-                pieces.shift[p] = end - pieces.place[p];
-                p = pieces.below[p];
+                end -= pieces.usedOf(p);
+                pieces.aimAt(p, end);
+                p = pieces.belowOf(p);
             }
             turnPlaces(t);
             p = t.last;
             for (int i = 0; i < MOST_PIECES && p != NONE; i++) {
                 bringOver(p);
-                p = pieces.below[p];
+                p = pieces.belowOf(p);
             }
             world.releasePieces(t);
-            pieces.used[id] = t.used;
+            pieces.use(id, t.used);
             t.last = id;
             t.mode = COPIED;
             world.add(t, SUM_CAME_OVER, t.used);
-            world.writeLog(LOG_JOINED, t, id);
+            world.writeLog(LOG_JOINED, id);
             return true;
         }
 
@@ -1198,9 +1322,9 @@ public final class GrowingStacks {
         int gather() {
             int end = 0;
             for (int i = 0; i < pieces.number; i++) {
-                int id = pieces.order[i];
-                pieces.shift[id] = end - pieces.place[id];
-                end += pieces.words[id];
+                int id = pieces.idAt(i);
+                pieces.aimAt(id, end);
+                end += pieces.wordsOf(id);
             }
             // All places are turned while the PIECES still lie where the places say.
             for (Task t : world.tasks) {
@@ -1208,11 +1332,10 @@ public final class GrowingStacks {
             }
             int moved = 0;
             for (int i = 0; i < pieces.number; i++) {
-                int id = pieces.order[i];
-                if (pieces.shift[id] != 0) {
-                    bringOver(id);
-                    pieces.place[id] += pieces.shift[id];
-                    world.writeLog(LOG_ELSEWHERE, world.tasks[pieces.owner[id]], id);
+                int id = pieces.idAt(i);
+                bringOver(id);
+                if (pieces.settle(id)) {
+                    world.writeLog(LOG_ELSEWHERE, id);
                     moved++;
                 }
             }
@@ -1220,8 +1343,8 @@ public final class GrowingStacks {
         }
 
         private void bringOver(int id) {
-            int from = pieces.place[id];
-            System.arraycopy(memory, from, memory, from + pieces.shift[id], pieces.used[id]);
+            int from = pieces.placeOf(id);
+            memory.bring(from, from + pieces.shiftOf(id), pieces.usedOf(id));
         }
 
         /** Each BASE and each POINTER by as much as the PIECE is moved in which it ends. */
@@ -1233,10 +1356,12 @@ public final class GrowingStacks {
                 int at = walk.place;
                 int f = walk.function;
                 walk.toCaller();
-                memory[at] = pieces.turned(memory[at]);
-                for (int s = 0; s < program.sizes[f]; s++) {
+                int size = program.sizeOf(f);
+                memory.put(at, pieces.turned(memory.word(at)));
+                for (int s = 0; s < size; s++) {
                     if (program.isPointer(f, s)) {
-                        memory[at + SLOTS + s] = pieces.turned(memory[at + SLOTS + s]);
+                        int slot = at + SLOTS + s;
+                        memory.put(slot, pieces.turned(memory.word(slot)));
                     }
                 }
             }
@@ -1258,7 +1383,7 @@ public final class GrowingStacks {
         final Mover mover;
         final Program program;
         final Pieces pieces;
-        final int[] memory;
+        final Memory memory;
 
         Machine(World world) {
             this.world = world;
@@ -1269,12 +1394,11 @@ public final class GrowingStacks {
         }
 
         /** False, if there is no gap of FIRST WORDS; a TASK whose first call finds no room has begun, and is OUT. */
-        boolean begin(int task, int f, int a, int mode) {
-            int id = pieces.take(world.settings[FIRST], task, NONE);
+        boolean begin(Task t, int f, int a, int mode) {
+            int id = pieces.take(world.settings[FIRST], t.number, NONE);
             if (id == NONE) {
                 return false;
             }
-            Task t = world.tasks[task];
             t.clear();
             t.state = GOING;
             t.mode = mode;
@@ -1285,7 +1409,7 @@ public final class GrowingStacks {
             if (covered != NONE) {
                 pushFrame(t, f, covered);
                 if (!program.isPointer(f, 0)) {
-                    memory[t.place + SLOTS] = a;
+                    memory.put(t.place + SLOTS, a);
                 }
             }
             return true;
@@ -1295,7 +1419,7 @@ public final class GrowingStacks {
             world.add(t, SUM_STEPS, 1);
             int f = t.function;
             int number = t.line;
-            int kind = number < program.lines[f] ? program.part(f, number, KIND) : NONE;
+            int kind = program.part(f, number, KIND);
             int called = NONE;
             t.line = number + 1;
             switch (kind) {
@@ -1306,7 +1430,7 @@ public final class GrowingStacks {
                     called = callFunction(t, number);
                     break;
                 case RETURN:
-                    leaveFrame(t, memory[t.place + SLOTS + program.part(f, number, A)]);
+                    leaveFrame(t, memory.word(t.place + SLOTS + program.part(f, number, A)));
                     break;
                 case FOREIGN:
                     called = callForeign(t, number);
@@ -1335,29 +1459,27 @@ public final class GrowingStacks {
             int slots = t.place + SLOTS;
             switch (kind) {
                 case SET:
-                    memory[slots + a] = b;
+                    memory.put(slots + a, b);
                     break;
                 case ADD:
-                    memory[slots + a] = memory[slots + b] + memory[slots + c];
+                    memory.put(slots + a, memory.word(slots + b) + memory.word(slots + c));
                     break;
                 case LESS:
-                    memory[slots + a] = memory[slots + b] < memory[slots + c] ? 1 : 0;
+                    memory.put(slots + a, memory.word(slots + b) < memory.word(slots + c) ? 1 : 0);
                     break;
                 case POINT:
-                    memory[slots + a] = slots + b;
+                    memory.put(slots + a, slots + b);
                     break;
                 case LOAD:
-                    int from = memory[slots + b];
-                    memory[slots + a] = from == NONE ? 0 : memory[from];
+                    int from = memory.word(slots + b);
+                    memory.put(slots + a, from == NONE ? 0 : memory.word(from));
                     break;
                 case STORE:
-                    int to = memory[slots + a];
-                    if (to != NONE) {
-                        memory[to] = memory[slots + b];
-                    }
+                    // NOWHERE is no place: what comes there is lost.
+                    memory.put(memory.word(slots + a), memory.word(slots + b));
                     break;
                 case JUMP:
-                    if (memory[slots + a] > 0) {
+                    if (memory.word(slots + a) > 0) {
                         t.line = b;
                     }
                     break;
@@ -1372,7 +1494,7 @@ public final class GrowingStacks {
             if (program.told(f)) {
                 return f;
             }
-            memory[t.place + SLOTS + program.part(t.function, number, C)] = 0;
+            memory.put(t.place + SLOTS + program.part(t.function, number, C), 0);
             return NONE;
         }
 
@@ -1398,7 +1520,7 @@ public final class GrowingStacks {
                 return f;
             }
             int slot = t.place + SLOTS + program.part(t.function, number, C);
-            memory[slot] = 3 * memory[slot] + 1;
+            memory.put(slot, 3 * memory.word(slot) + 1);
             endForeign(t, words);
             return NONE;
         }
@@ -1420,8 +1542,8 @@ public final class GrowingStacks {
             int need = world.needOf(f);
             world.add(t, SUM_CHECKED, 1);
             t.reach = Math.max(t.reach, t.used + need);
-            int words = pieces.words[t.last];
-            if (words - pieces.used[t.last] < need) {
+            int words = pieces.wordsOf(t.last);
+            if (words - pieces.usedOf(t.last) < need) {
                 boolean grown = t.mode == LINKED ? mover.linkPiece(t, need)
                         : mover.moveInto(t, Mover.doubled(2 * words, t.used + need), LOG_GREATER);
                 if (!grown) {
@@ -1437,22 +1559,23 @@ public final class GrowingStacks {
             int caller = t.function;
             boolean foreign = program.part(caller, t.line - 1, KIND) == FOREIGN;
             int slot = program.part(caller, t.line - 1, foreign ? C : B);
-            int word = memory[t.place + SLOTS + slot];
+            int word = memory.word(t.place + SLOTS + slot);
             pushFrame(t, f, 32 * caller + t.line + covered + (foreign ? CALLED_BACK : 0));
             if (program.isPointer(caller, slot) == program.isPointer(f, 0)) {
-                memory[t.place + SLOTS] = word;
+                memory.put(t.place + SLOTS, word);
             }
         }
 
         private void pushFrame(Task t, int f, int back) {
-            int at = pieces.place[t.last] + pieces.used[t.last];
-            memory[at] = t.place;
-            memory[at + BACK] = back;
-            for (int s = 0; s < program.sizes[f]; s++) {
-                memory[at + SLOTS + s] = program.isPointer(f, s) ? NONE : 0;
+            int at = pieces.topOf(t.last);
+            memory.put(at, t.place);
+            memory.put(at + BACK, back);
+            int size = program.sizeOf(f);
+            for (int s = 0; s < size; s++) {
+                memory.put(at + SLOTS + s, program.isPointer(f, s) ? NONE : 0);
             }
-            int words = program.frameWords(f);
-            pieces.used[t.last] += words;
+            int words = SLOTS + size;
+            pieces.use(t.last, words);
             t.used += words;
             t.most = Math.max(t.most, t.used);
             t.frames++;
@@ -1462,13 +1585,13 @@ public final class GrowingStacks {
         }
 
         private void leaveFrame(Task t, int value) {
-            int base = memory[t.place];
-            int back = memory[t.place + BACK];
+            int base = memory.word(t.place);
+            int back = memory.word(t.place + BACK);
             int words = program.frameWords(t.function);
-            pieces.used[t.last] -= words;
+            pieces.use(t.last, -words);
             t.used -= words;
             t.frames--;
-            if (pieces.used[t.last] == 0 && pieces.below[t.last] != NONE) {
+            if (pieces.usedOf(t.last) == 0 && pieces.belowOf(t.last) != NONE) {
                 mover.leavePiece(t);
             }
             if (base == NONE) {
@@ -1479,7 +1602,7 @@ public final class GrowingStacks {
             t.place = base;
             t.function = (back & WAY_BITS) >> 5;
             t.line = back & LINE_BITS;
-            memory[base + SLOTS + program.part(t.function, t.line - 1, C)] = value;
+            memory.put(base + SLOTS + program.part(t.function, t.line - 1, C), value);
             if ((back & CALLED_BACK) != 0) {
                 endForeign(t, program.part(t.function, t.line - 1, A));
             }
@@ -1506,6 +1629,16 @@ public final class GrowingStacks {
             this.world = world;
         }
 
+        private void mark(int at) {
+            if (at >= 0 && at < MEMORY_WORDS) {
+                marks[at]++;
+            }
+        }
+
+        private int marksAt(int at) {
+            return at >= 0 && at < MEMORY_WORDS ? marks[at] : 0;
+        }
+
         private void goToLast(Task t) {
             piece = t.last;
             place = t.place;
@@ -1516,11 +1649,11 @@ public final class GrowingStacks {
         private void goToCaller() {
             Pieces pieces = world.pieces;
             int end = place;
-            if (place == pieces.place[piece] && pieces.below[piece] != NONE) {
-                piece = pieces.below[piece];
-                end = pieces.place[piece] + pieces.used[piece];
+            if (place == pieces.placeOf(piece) && pieces.belowOf(piece) != NONE) {
+                piece = pieces.belowOf(piece);
+                end = pieces.topOf(piece);
             }
-            function = (world.memory[place + BACK] & WAY_BITS) >> 5;
+            function = (world.memory.word(place + BACK) & WAY_BITS) >> 5;
             place = end - world.program.frameWords(function);
         }
 
@@ -1532,7 +1665,7 @@ public final class GrowingStacks {
                 goToLast(t);
                 for (int left = t.frames; left > 0; left--) {
                     wrong += wrongPointers();
-                    int base = world.memory[place];
+                    int base = world.memory.word(place);
                     if (left > 1) {
                         goToCaller();
                     }
@@ -1545,8 +1678,10 @@ public final class GrowingStacks {
         private void markNumbers(Task t) {
             goToLast(t);
             for (int left = t.frames; left > 0; left--) {
-                for (int s = 0; s < world.program.sizes[function]; s++) {
-                    marks[place + SLOTS + s] = world.program.isPointer(function, s) ? 0 : 1;
+                for (int s = 0; s < world.program.sizeOf(function); s++) {
+                    if (!world.program.isPointer(function, s)) {
+                        mark(place + SLOTS + s);
+                    }
                 }
                 if (left > 1) {
                     goToCaller();
@@ -1556,10 +1691,10 @@ public final class GrowingStacks {
 
         private int wrongPointers() {
             int wrong = 0;
-            for (int s = 0; s < world.program.sizes[function]; s++) {
-                int word = world.memory[place + SLOTS + s];
+            for (int s = 0; s < world.program.sizeOf(function); s++) {
+                int word = world.memory.word(place + SLOTS + s);
                 if (world.program.isPointer(function, s) && word != NONE) {
-                    wrong += word >= 0 && word < MEMORY_WORDS && marks[word] == 1 ? 0 : 1;
+                    wrong += marksAt(word) == 1 ? 0 : 1;
                 }
             }
             return wrong;
@@ -1589,7 +1724,7 @@ public final class GrowingStacks {
             for (int left = t.frames; left > 0; left--) {
                 int words = world.program.frameWords(walk.function);
                 for (int i = 0; i < words; i++) {
-                    marks[walk.place + i]++;
+                    mark(walk.place + i);
                 }
                 if (left > 1) {
                     walk.toCaller();
@@ -1602,10 +1737,10 @@ public final class GrowingStacks {
             int from = world.walk.place;
             int words = world.program.frameWords(world.walk.function);
             int id = pieces.holding(from);
-            boolean well = pieces.owner[id] == t.number && from >= pieces.place[id]
-                    && from + words <= pieces.place[id] + pieces.words[id];
+            boolean well = pieces.ownerOf(id) == t.number && from >= pieces.placeOf(id)
+                    && from + words <= pieces.endOf(id);
             for (int i = 0; i < words; i++) {
-                well = well && marks[from + i] == 1;
+                well = well && marksAt(from + i) == 1;
             }
             return well;
         }

@@ -1,4 +1,5 @@
 import java.lang.reflect.Field;
+import java.util.Random;
 
 /**
  * Promise 23, from within: what never is can't be brought about by calls, so WORDS of the memory are overwritten here
@@ -18,6 +19,7 @@ public final class NeverTest {
         baseOfWhoCalled();
         frameInItsPiece();
         wordInCommon();
+        anyWords();
         DUE.end();
     }
 
@@ -27,7 +29,10 @@ public final class NeverTest {
         Object world = now.get(x);
         Field memory = world.getClass().getDeclaredField("memory");
         memory.setAccessible(true);
-        return (int[]) memory.get(world);
+        Object held = memory.get(world);
+        Field words = held.getClass().getDeclaredField("words");
+        words.setAccessible(true);
+        return (int[]) words.get(held);
     }
 
     private static void never(GrowingStacks x, int results, int places, int frames) {
@@ -229,5 +234,56 @@ public final class NeverTest {
         DUE.is("with that of another TASK: never(2)", x.never(2), 2);
         m[5] = 0;
         never(x, 0, 0, 0);
+    }
+
+    /**
+     * LANGUAGE.md, rule 7: "No call may ever throw or fail to end, for any arguments in any state": each index is looked
+     * at before it is used, so that none throws even where WORDS are that never are.
+     */
+    private static void anyWords() throws ReflectiveOperationException {
+        int[] odd = {Integer.MIN_VALUE, -2, -1, 0, 1, 31, 319, 320, 1023, 1024, 2047, 2048, 3071, Integer.MAX_VALUE};
+        Random random = new Random(23);
+        for (int run = 0; run < 300; run++) {
+            GrowingStacks x = pointing();
+            x.stop(0);
+            x.stop(1);
+            Programs.sum(x, 1);
+            Programs.foreign(x, 2, 5, 30, 1);
+            for (int t = 0; t < 6; t++) {
+                x.start(t, t % 3, 9, random.nextInt(2));
+            }
+            int[] m = memory(x);
+            for (int i = 0; i < 40; i++) {
+                x.round(1 + random.nextInt(10));
+                for (int n = random.nextInt(6); n > 0; n--) {
+                    int word = random.nextBoolean() ? odd[random.nextInt(odd.length)] : random.nextInt(2048);
+                    m[random.nextInt(Math.max(1, Math.min(2048, x.look(6))))] = word;
+                }
+                askAll(x, random);
+            }
+            DUE.is("set(6, 0)", x.set(6, 0), false);
+        }
+    }
+
+    private static void askAll(GrowingStacks x, Random random) {
+        int t = random.nextInt(6);
+        for (int what = 0; what < 8; what++) {
+            for (int i = 0; i < x.task(t, 4); i++) {
+                x.frame(t, i, what);
+                x.slot(t, i, what, 1 + i % 3);
+            }
+            x.piece(t, what, what % 4);
+            x.land(t, 60, what % 5);
+        }
+        x.never(1);
+        x.never(2);
+        switch (random.nextInt(6)) {
+            case 0: x.compact(); break;
+            case 1: x.join(t); break;
+            case 2: x.quiet(t); break;
+            case 3: x.image(random.nextBoolean()); break;
+            case 4: x.step(t, 200); break;
+            default: x.start(t, t % 3, 20, t % 2);
+        }
     }
 }
